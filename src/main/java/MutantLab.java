@@ -256,7 +256,7 @@ public final class MutantLab {
             case JZ:
                 next = registers[a] == 0 ? c : next;
                 break;
-            default:
+            default: // INC: no op outside 0 to 7 is ever kept
                 registers[a] = registers[a] + c;
                 break;
         }
