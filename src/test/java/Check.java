@@ -1,3 +1,5 @@
+import java.util.List;
+
 /** Counts the answers that are not as due; each test makes one and ends with it. */
 final class Check {
     private int wrong = 0;
@@ -17,6 +19,20 @@ final class Check {
 
     void holds(String what, boolean truth) {
         due(what, truth, true);
+    }
+
+    /** Uses both objects up, as Answers.of says. */
+    void alike(String what, MutantLab got, MutantLab want) {
+        List<String> gotAnswers = Answers.of(got);
+        List<String> wantAnswers = Answers.of(want);
+        looked++;
+        for (int i = 0; i < wantAnswers.size(); i++) {
+            if (!gotAnswers.get(i).equals(wantAnswers.get(i))) {
+                wrong++;
+                System.out.println(what + ": " + gotAnswers.get(i) + ", due is " + wantAnswers.get(i));
+                return;
+            }
+        }
     }
 
     void end() {

@@ -1,12 +1,18 @@
-/** Promise 15: where two answers below 0 are due, the one that is named first is given. */
+/**
+ * Promise 15: "emit, mutateOp, mutateC and length: the answers below 0 are tested in the order in which they are
+ * named." Where two or three of them are due, the one that is named first is given.
+ */
 public final class OrderTest {
     private static final Check CHECK = new Check();
+    private static final int[] BAD_OPS = {-1, 8, Integer.MAX_VALUE, Integer.MIN_VALUE};
+    private static final int[] BAD_NUMBERS = {-1, 24, Integer.MAX_VALUE, Integer.MIN_VALUE};
 
     public static void main(String[] args) {
         emitNamesTheOpFirst();
         mutateOpNamesThePlaceThenTheOp();
         mutateCNamesThePlaceFirst();
         lengthNamesTheMutantFirst();
+        everyPairOfBadArguments();
         CHECK.end();
     }
 
@@ -63,5 +69,24 @@ public final class OrderTest {
         CHECK.due("both: length(-1, -1)", lab.length(-1, -1), MutantLab.NO_MUTANT);
         CHECK.due("both: length(0, 1)", lab.length(0, 1), MutantLab.NO_TEST);
         CHECK.due("both: length(0, 0)", lab.length(0, 0), 1);
+    }
+
+    /** The same with both arguments bad in every way, on an empty object, on one with little and on a full one. */
+    private static void everyPairOfBadArguments() {
+        int[][] sizes = {{0, 0, 0}, {1, 1, 1}, {12, 6, 24}};
+        for (int[] size : sizes) {
+            MutantLab lab = Labs.of(size[0], size[1], size[2]);
+            String held = size[0] + " instructions: ";
+            for (int bad : BAD_NUMBERS) {
+                for (int op : BAD_OPS) {
+                    CHECK.due(held + "mutateOp(" + bad + ", " + op + ")", lab.mutateOp(bad, op), MutantLab.BAD_PLACE);
+                    CHECK.due(held + "emit(" + op + ", 0, " + bad + ")", lab.emit(op, 0, bad), MutantLab.BAD_OP);
+                }
+                for (int test : BAD_NUMBERS) {
+                    CHECK.due(held + "length(" + bad + ", " + test + ")", lab.length(bad, test), MutantLab.NO_MUTANT);
+                }
+                CHECK.due(held + "mutateC(" + bad + ", 0)", lab.mutateC(bad, 0), MutantLab.BAD_PLACE);
+            }
+        }
     }
 }
