@@ -15,6 +15,7 @@ public final class AnswersEdgesTest {
         promise12NoMutantNoTest();
         promise12AHundredIfStopped();
         promise13NoneIsEnough();
+        promise13MoreTestsThanInstructions();
         promise14WithoutTests();
         promise14NoneLikeIt();
         CHECK.end();
@@ -170,6 +171,26 @@ public final class AnswersEdgesTest {
             }
             CHECK.due(tests + " tests, none of which kills: enough()", lab.enough(), 0);
         }
+    }
+
+    /** The same sentence: the number has no bound in the program's length nor in that of a run, 1 here. */
+    private static void promise13MoreTestsThanInstructions() {
+        MutantLab lab = Ops.program(Ops.row(Ops.ADD, 0, 1, -2));
+        lab.test(4, 2, 2);
+        lab.test(0, -2, -2);
+        lab.test(0, 2, -2);
+        lab.test(-2, 0, -2);
+        int[] ops = {Ops.SET, Ops.SUB, Ops.MIN, Ops.INC};
+        for (int m = 0; m < 4; m++) {
+            lab.mutateOp(0, ops[m]);
+            CHECK.due("one instruction: killers(" + m + ")", lab.killers(m), 1 << m);
+            CHECK.due("one instruction, each test needed, " + (m + 1) + ": enough()", lab.enough(), m + 1);
+        }
+        // Two tests more, which kill all of these as well, and without which it would be four.
+        lab.test(0, 0, 77);
+        CHECK.due("one that kills all: enough()", lab.enough(), 1);
+        lab.test(1, 1, 78);
+        CHECK.due("two that kill all: enough()", lab.enough(), 1);
     }
 
     /** Promise 14: "without tests all of them." */

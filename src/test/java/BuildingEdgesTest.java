@@ -24,7 +24,10 @@ public final class BuildingEdgesTest {
         promise6NotTheNumberOfAnInstruction();
         promise6ThereAre24();
         promise6NothingChanges();
+        promise6AnyCIsTaken();
         promise7DropsTestsAndMutants();
+        promise7NothingOfADroppedTestIsLeft();
+        promise7NothingOfADroppedMutantIsLeft();
         promise7MadeLongerAtAnyTime();
         CHECK.end();
     }
@@ -264,6 +267,34 @@ public final class BuildingEdgesTest {
         changesNothing("mutateC of no place", full, (lab, p) -> lab.mutateC(p, 7), badPlaces(12));
     }
 
+    /**
+     * "Adds the mutant in which instruction p has another c. BAD_PLACE; there are 24: FULL; [..] Else answers its
+     * number.": no c is refused, whatever the op, be it the one that the instruction has.
+     */
+    private static void promise6AnyCIsTaken() {
+        int[] cs = {0, 1, -1, 7, 8, 12, 100, MOST, LEAST};
+        for (int op : GOOD_OPS) {
+            for (int own : cs) {
+                MutantLab lab = Ops.program(Ops.row(op, 0, 1, own));
+                lab.snapshotTest(3, 5);
+                lab.snapshotTest(0, 0);
+                for (int m = 0; m < cs.length; m++) {
+                    CHECK.due("op " + op + " with " + own + ": mutateC(0, " + cs[m] + ")", lab.mutateC(0, cs[m]), m);
+                    if (cs[m] == own) {
+                        CHECK.due("op " + op + ", the same c " + own + ": killers", lab.killers(m), 0);
+                    }
+                }
+            }
+        }
+        MutantLab full = Ops.program(Ops.row(Ops.INC, 0, 0, 1));
+        for (int m = 0; m < 24; m++) {
+            CHECK.due("the same c, time " + m, full.mutateC(0, 1), m);
+        }
+        full.snapshotTest(4, 0);
+        CHECK.due("24 of the same c: same()", full.same(), 24);
+        CHECK.due("24 of the same c: one more", full.mutateC(0, 1), MutantLab.FULL);
+    }
+
     /** "Drops tests and mutants; the program stays." */
     private static void promise7DropsTestsAndMutants() {
         for (int count = 0; count <= 12; count++) {
@@ -293,6 +324,50 @@ public final class BuildingEdgesTest {
         MutantLab empty = new MutantLab();
         empty.clear();
         CHECK.alike("a new one, cleared", empty, new MutantLab());
+    }
+
+    /** The same sentence: a test with an output where one without it stood, and the other way about. */
+    private static void promise7NothingOfADroppedTestIsLeft() {
+        MutantLab lab = Ops.program(Ops.row(Ops.JZ, 1, 0, 0));
+        for (int time = 0; time < 4; time++) {
+            boolean stopped = time % 2 == 1;
+            for (int t = 0; t < 6; t++) {
+                CHECK.due("time " + time + ": snapshotTest " + t, lab.snapshotTest(5 + t, stopped ? 0 : 1), t);
+            }
+            lab.mutateC(0, 1);
+            for (int t = 0; t < 6; t++) {
+                CHECK.due("time " + time + ": passes(" + t + ")", lab.passes(t), true);
+            }
+            // The mutant always ends, so it is killed where no output is expected.
+            CHECK.due("time " + time + ": killers(0)", lab.killers(0), stopped ? 63 : 0);
+            lab.clear();
+        }
+    }
+
+    /** The same sentence: a mutant with each op where one with each op stood. */
+    private static void promise7NothingOfADroppedMutantIsLeft() {
+        int[] outputs = {50, 8, 4, 12, 2, 6, 6, 56};
+        for (int before : GOOD_OPS) {
+            for (int after : GOOD_OPS) {
+                MutantLab lab = Ops.program(Ops.row(Ops.ADD, 0, 1, 50), Ops.row(Ops.INC, 0, 0, 0));
+                lab.mutateOp(0, before);
+                lab.mutateC(1, before);
+                lab.clear();
+                lab.test(6, 2, 8);
+                String what = "op " + before + " dropped, op " + after;
+                CHECK.due(what + ": mutateOp", lab.mutateOp(0, after), 0);
+                CHECK.due(what + ": mutateC", lab.mutateC(1, after), 1);
+                CHECK.due(what + ": output(0, 0)", lab.output(0, 0), outputs[after]);
+                CHECK.due(what + ": output(1, 0)", lab.output(1, 0), 8 + after);
+                // Each where the other one stood.
+                lab.clear();
+                lab.test(6, 2, 8);
+                lab.mutateC(1, after);
+                lab.mutateOp(0, after);
+                CHECK.due(what + ", the other way about: output(0, 0)", lab.output(0, 0), 8 + after);
+                CHECK.due(what + ", the other way about: output(1, 0)", lab.output(1, 0), outputs[after]);
+            }
+        }
     }
 
     /** "(The program can be made longer at any time: mutants are then the longer program with the same change.)" */

@@ -62,6 +62,7 @@ public final class RunTest {
         one("MIN", Ops.MIN, 100, 3, 5, 3);
         one("MIN", Ops.MIN, 100, 4, 4, 4);
         one("MIN", Ops.MIN, 100, -4, 3, -4);
+        gives("MIN with a register set before", 5, 9, 3, 2, Ops.row(Ops.SET, 1, 0, 3), Ops.row(Ops.MIN, 0, 1, 0));
         one("INC", Ops.INC, 7, 5, 3, 12);
         one("INC", Ops.INC, -7, 5, 3, -2);
         one("INC", Ops.INC, 0, 5, 3, 5);

@@ -12,6 +12,8 @@ public final class TermsEdgesTest {
         endsWhereAJumpLeavesTheProgram();
         endsAtOnceWithoutInstructions();
         stoppedOnlyAfterAHundred();
+        theHundredthMayLeaveTheProgram();
+        longerByAStepThanAHundred();
         atMostTwelveSixAndTwentyFour();
         bitsOfTestsThatDoNotExist();
         theLastOf512Calls();
@@ -171,6 +173,56 @@ public final class TermsEdgesTest {
             CHECK.due(steps + " steps: killers(0)", lab.killers(0), ends ? 2 : 3);
             CHECK.due(steps + " steps: output(0, 0)", lab.output(0, 0), ends ? y : 0);
             CHECK.due(steps + " steps: length(0, 0)", lab.length(0, 0), ends ? steps : 100);
+        }
+    }
+
+    /** The same sentence: whether a run has ended is asked of where the hundredth step leads, not of the steps. */
+    private static void theHundredthMayLeaveTheProgram() {
+        // 49 rounds of two steps, one step more, and a jump as the hundredth.
+        MutantLab lab = Ops.program(Ops.row(Ops.INC, 0, 0, 1), Ops.row(Ops.JLT, 0, 1, 0),
+            Ops.row(Ops.INC, 3, 0, 0), Ops.row(Ops.JZ, 2, 0, -1));
+        lab.snapshotTest(0, 49);
+        int[] outside = {-1, -2, LEAST, 4, 5, 12, 99, 100, MOST};
+        for (int place : outside) {
+            hundredthLeadsTo(lab, place, true);
+        }
+        for (int place = 0; place < 4; place++) {
+            hundredthLeadsTo(lab, place, false);
+        }
+        CHECK.due("those that end: same()", lab.same(), outside.length);
+        CHECK.due("those that do not: killed(1)", lab.killed(1), 4);
+    }
+
+    private static void hundredthLeadsTo(MutantLab lab, int place, boolean ends) {
+        String what = "the hundredth leads to " + place;
+        int mutant = lab.mutateC(3, place);
+        CHECK.due(what + ": output", lab.output(mutant, 0), ends ? 49 : 0);
+        CHECK.due(what + ": length", lab.length(mutant, 0), 100);
+        CHECK.due(what + ": killers", lab.killers(mutant), ends ? 0 : 1);
+    }
+
+    /** The same sentence, where an instruction more makes a run of a hundred steps one that is stopped. */
+    private static void longerByAStepThanAHundred() {
+        MutantLab lab = Ops.program(Ops.row(Ops.INC, 0, 0, 1), Ops.row(Ops.JLT, 0, 1, 0));
+        lab.snapshotTest(0, 50);
+        lab.mutateC(0, 1);
+        lab.mutateC(0, 2);
+        lab.mutateC(0, 0);
+        holdsAround("100 steps", lab, true, new int[] {50, 50, 0}, new int[] {100, 50, 100}, new int[] {0, 0, 1});
+        CHECK.due("100 steps: same()", lab.same(), 2);
+        lab.emit(Ops.INC, 0, 0);
+        holdsAround("101 steps", lab, false, new int[] {0, 50, 0}, new int[] {100, 51, 100}, new int[] {1, 0, 1});
+        // The first and the last, which have none like the program.
+        CHECK.due("101 steps: same()", lab.same(), 2);
+    }
+
+    private static void holdsAround(
+            String what, MutantLab lab, boolean passes, int[] outputs, int[] lengths, int[] killers) {
+        CHECK.due(what + ": passes(0)", lab.passes(0), passes);
+        for (int m = 0; m < outputs.length; m++) {
+            CHECK.due(what + ": output(" + m + ", 0)", lab.output(m, 0), outputs[m]);
+            CHECK.due(what + ": length(" + m + ", 0)", lab.length(m, 0), lengths[m]);
+            CHECK.due(what + ": killers(" + m + ")", lab.killers(m), killers[m]);
         }
     }
 
